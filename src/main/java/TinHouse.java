@@ -1266,22 +1266,30 @@ public final class TinHouse {
             return merchant >= 0 && merchant < balances.length ? balances[merchant] : 0;
         }
 
-        /**
-         * For each set of uneven merchants the most parts that sum to 0, by whoever comes last: all
-         * together sum to 0, so the parts of the whole set leave nobody over.
-         */
+        /** All together sum to 0, so the parts of the set of all leave nobody over. */
         int fewestPayments() {
             int n = gatherUneven();
-            int all = Math.min(1 << n, Math.min(sums.length, sets.length));
-            for (int set = 1; set < all; set++) {
-                int least = Integer.numberOfTrailingZeros(set);
-                int others = set & (set - 1);
-                if (least < uneven.length && others >= 0 && others < sums.length) {
-                    sums[set] = sums[others] + uneven[least];
-                }
-                sets[set] = mostWithoutOne(set, n) + (sums[set] == 0 ? 1 : 0);
+            int all = (1 << n) - 1;
+            for (int set = 1; set <= all; set++) {
+                weighSet(set, n);
             }
-            return all > 0 && all <= sets.length ? n - sets[all - 1] : 0;
+            return all >= 0 && all < sets.length ? n - sets[all] : 0;
+        }
+
+        /** The most parts of a set that sum to 0, by whoever comes last, and what it sums to itself. */
+        private void weighSet(int set, int n) {
+            if (set < 0 || set >= sums.length || set >= sets.length) {
+                return;
+            }
+            int most = 0;
+            for (int i = 0; i < n && i < uneven.length; i++) {
+                int others = set & ~(1 << i);
+                if (others >= 0 && others < set) {
+                    sums[set] = sums[others] + uneven[i];
+                    most = Math.max(most, sets[others]);
+                }
+            }
+            sets[set] = most + (sums[set] == 0 ? 1 : 0);
         }
 
         private int gatherUneven() {
@@ -1293,17 +1301,6 @@ public final class TinHouse {
                 }
             }
             return n;
-        }
-
-        private int mostWithoutOne(int set, int n) {
-            int most = 0;
-            for (int i = 0; i < n; i++) {
-                int others = set & ~(1 << i);
-                if (others != set && others >= 0 && others < sets.length) {
-                    most = Math.max(most, sets[others]);
-                }
-            }
-            return most;
         }
 
         /** Lays the shortest ring, of like ones the first row; how many are in it, 0 for none. */

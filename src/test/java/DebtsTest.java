@@ -7,12 +7,14 @@ public final class DebtsTest {
         debts();
         payments();
         owed();
+        owedAtEdges();
         rates();
         atMost();
         envelopes();
         envelopesRefused();
         purses();
         shares();
+        newPurse();
         leaving();
         parting();
         CHECK.end();
@@ -81,6 +83,24 @@ public final class DebtsTest {
         CHECK.due("debt below", x.owed(-1, 0), TinHouse.BAD);
         CHECK.due("season", x.owed(0, 100), TinHouse.BAD);
         CHECK.due("season below", x.owed(0, -1), TinHouse.BAD);
+    }
+
+    private static void owedAtEdges() {
+        TinHouse x = Check.withMerchants(2);
+        Check.enact(x, "1000", 1, 0);
+        x.debt(0, 1, 6, 0, 0);
+        CHECK.due("season 0", x.owed(0, 0), 6);
+        x.pay(0, 0, 4);
+        CHECK.due("paid in season 0", x.owed(0, 0), 2);
+        x.pay(0, 1, 1);
+        CHECK.due("one grows too", x.owed(0, 1), 2);
+        x.pay(0, 99, 3);
+        CHECK.due("season 99, at most", x.owed(0, 99), 1000000000000L);
+        x.debt(0, 1, 9, 99, 99);
+        x.pay(1, 99, 2);
+        CHECK.due("lent in season 99", x.owed(1, 99), 7);
+        CHECK.due("outside 1", x.seal(1, 1), 1);
+        CHECK.due("paid as far as there is owed", x.owed(1, 99), 0);
     }
 
     private static void rates() {
@@ -200,6 +220,23 @@ public final class DebtsTest {
         CHECK.due("above 30 of him", x.share(0, 0, 1), TinHouse.NO);
         CHECK.due("BAD ahead of NO", x.share(0, 3, 1), TinHouse.BAD);
         CHECK.due("all of another purse", x.share(1, 0, 30), 30);
+    }
+
+    private static void newPurse() {
+        TinHouse x = Check.withMerchants(10);
+        x.image(0);
+        x.purse(0, 9, 1);
+        for (int i = 0; i < 10; i++) {
+            x.share(0, i, 3);
+        }
+        x.from(0);
+        x.purse(1, 8, 1);
+        for (int i = 0; i < 10; i++) {
+            CHECK.due("nobody has shares in a new one", x.leave(0, i, 0), TinHouse.NO);
+        }
+        CHECK.due("one share", x.share(0, 4, 1), 1);
+        CHECK.due("of the rest all", x.parted(0, 100, 4), 67);
+        CHECK.due("the manager's third", x.parted(0, 100, 1), 33);
     }
 
     private static void leaving() {

@@ -9,6 +9,7 @@ public final class ImagesTest {
         counts();
         digestOfNew();
         digestOfAll();
+        digestOfLongAct();
         digestTellsApart();
         CHECK.end();
     }
@@ -157,6 +158,30 @@ public final class ImagesTest {
                 3, 'w', '+', '1', 0, 1, '7', 0,
                 inFirst, inSecond, inThird,
                 57, 2);
+    }
+
+    private static void digestOfLongAct() {
+        TinHouse x = new TinHouse();
+        String text = "-------------------------------------------------7";
+        Check.put(x, 1, text);
+        x.act(1, 2, 98);
+        long h = 379;
+        int[] ahead = {0, 1, 0, 0, 0, 0, 0, 0, 0, 0, 0, 2, 98, 50};
+        for (int v : ahead) {
+            h = 31 * h + v;
+        }
+        for (char sign : text.toCharArray()) {
+            h = 31 * h + sign;
+        }
+        int[] behind = {10, 9, 0, 0, 0, 0, 50};
+        for (int v : behind) {
+            h = 31 * h + v;
+        }
+        for (char sign : text.toCharArray()) {
+            h = 31 * h + sign;
+        }
+        h = 31 * (31 * (31 * (31 * h))) + 1;
+        CHECK.due("digest of a long act", x.digest(), h);
     }
 
     private static void digestTellsApart() {

@@ -110,6 +110,13 @@ public final class NamesTest {
 
     private static void noOrder() {
         TinHouse x = new TinHouse();
+        x.ahead(5, 0, 99);
+        x.ahead(0, 6, 0);
+        CHECK.due("by what follows from it", x.place(6, 99, 0), 2);
+        CHECK.due("by what is known then", x.place(6, 98, 0), 1);
+        CHECK.due("the row by 99", x.order(99, 0), 1);
+        CHECK.due("the row by 98", x.order(98, 0), 0);
+        x.names(9);
         x.ahead(0, 1, 0);
         x.ahead(1, 2, 5);
         x.ahead(2, 0, 7);
@@ -154,13 +161,17 @@ public final class NamesTest {
         CHECK.due("letter 1", x.carries(1), 64);
         CHECK.due("letter 2", x.carries(2), 65);
         CHECK.due("letter 3", x.carries(3), 1);
+        x.letter(3, 0, 0, 9999, 7);
+        CHECK.due("thing 7, day 0", x.knows(3, 7, 0), 1);
+        CHECK.due("thing 7, day 9998", x.knows(0, 7, 9998), 0);
+        CHECK.due("thing 7, day 9999", x.knows(0, 7, 9999), 1);
         CHECK.due("merchant", x.knows(4, 0, 0), TinHouse.BAD);
         CHECK.due("merchant below", x.knows(-1, 0, 0), TinHouse.BAD);
         CHECK.due("thing", x.knows(0, 8, 0), TinHouse.BAD);
         CHECK.due("thing below", x.knows(0, -1, 0), TinHouse.BAD);
         CHECK.due("day", x.knows(0, 0, 10000), TinHouse.BAD);
         CHECK.due("day below", x.knows(0, 0, -1), TinHouse.BAD);
-        CHECK.due("letter", x.carries(4), TinHouse.BAD);
+        CHECK.due("letter", x.carries(5), TinHouse.BAD);
         CHECK.due("letter below", x.carries(-1), TinHouse.BAD);
     }
 
@@ -176,6 +187,26 @@ public final class NamesTest {
         x.letter(9, 0, 7, 7, 3);
         CHECK.due("around", x.carries(9), 12);
         CHECK.due("nobody the day ahead", x.knows(9, 3, 6), 0);
+        TinHouse y = Check.withMerchants(10);
+        y.image(0);
+        y.letter(0, 1, 7, 7, 2);
+        CHECK.due("in the letter", y.carries(0), 4);
+        y.from(0);
+        y.letter(0, 1, 7, 7, -1);
+        CHECK.due("not in the new one", y.carries(0), 0);
+        TinHouse z = Check.withMerchants(3);
+        z.letter(1, 2, 5, 6, 1);
+        z.letter(0, 1, 5, 5, 0);
+        CHECK.due("both gain at first", z.carries(0), 3);
+        z.names(9);
+        z.image(1);
+        z.letter(2, 0, 6, 6, 7);
+        z.letter(0, 2, 6, 6, -1);
+        CHECK.due("in a circle", z.carries(3), 131);
+        z.from(1);
+        z.letter(2, 0, 6, 6, -1);
+        z.letter(0, 2, 6, 6, -1);
+        CHECK.due("in a circle without it", z.carries(3), 3);
         CHECK.due("all that he tells that day", x.carries(8), 12);
     }
 

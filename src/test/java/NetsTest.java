@@ -6,10 +6,12 @@ public final class NetsTest {
     public static void main(String[] args) {
         balance();
         fewest();
+        fewestOfOne();
         fewestOfTen();
         ring();
         ringsOfLikeLength();
         longRings();
+        ringsFromOne();
         CHECK.end();
     }
 
@@ -51,6 +53,15 @@ public final class NetsTest {
         CHECK.due("six", x.fewest(3), 5);
         CHECK.due("season", x.fewest(100), TinHouse.BAD);
         CHECK.due("season below", x.fewest(-1), TinHouse.BAD);
+    }
+
+    private static void fewestOfOne() {
+        TinHouse x = Check.withMerchants(4);
+        x.debt(0, 1, 1, 0, 99);
+        CHECK.due("one shekel", x.fewest(0), 1);
+        x.debt(2, 1, 1, 0, 99);
+        x.debt(3, 1, 1, 0, 99);
+        CHECK.due("three shekels", x.fewest(0), 3);
     }
 
     private static void fewestOfTen() {
@@ -123,6 +134,24 @@ public final class NetsTest {
         row(x, 2, 0, 1, 5);
         owes(x, 3, 1, 3);
         row(x, 3, 1, 3);
+    }
+
+    private static void ringsFromOne() {
+        TinHouse x = Check.withMerchants(6);
+        int[] longWay = {0, 1, 2, 3, 4, 0};
+        for (int i = 0; i < 5; i++) {
+            owes(x, longWay[i], longWay[i + 1], 0);
+        }
+        row(x, 0, 0, 1, 2, 3, 4);
+        owes(x, 0, 2, 1);
+        row(x, 1, 0, 2, 3, 4);
+        owes(x, 0, 5, 2);
+        owes(x, 5, 3, 2);
+        row(x, 2, 0, 2, 3, 4);
+        owes(x, 5, 4, 3);
+        row(x, 3, 0, 5, 4);
+        owes(x, 1, 4, 4);
+        row(x, 4, 0, 1, 4);
     }
 
     private static void longRings() {

@@ -8,6 +8,7 @@ public final class PlansTest {
         prices();
         plan();
         worstWorld();
+        eachWorld();
         likePlans();
         tollsOfTheSeason();
         part();
@@ -98,6 +99,19 @@ public final class PlansTest {
             x.load(0, 1000000, 0);
         }
         rows(x, 0, 60000000, 0, 0, 0, 0, 0, 0);
+    }
+
+    /** Each world once the worst one. */
+    private static void eachWorld() {
+        TinHouse x = Check.withMerchants(1);
+        x.load(0, 100, 0);
+        x.load(0, 10, 0);
+        prices(x, 10, 20, 30);
+        rows(x, 0, 11, 0, 0);
+        prices(x, 30, 10, 20);
+        rows(x, 0, 11, 0, 0);
+        prices(x, 20, 30, 10);
+        rows(x, 0, 11, 0, 0);
     }
 
     private static void likePlans() {

@@ -31,7 +31,7 @@ public final class RulesTest {
     private static final File SOURCE = new File("src/main/java/TinHouse.java");
     private static final Set<String> LIBRARY = Set.of(
             "java.lang.Math.max", "java.lang.Math.min", "java.lang.Math.abs", "java.lang.System.arraycopy",
-            "java.lang.Integer.bitCount", "java.lang.Integer.numberOfTrailingZeros", "java.util.Arrays.fill");
+            "java.lang.Integer.bitCount", "java.util.Arrays.fill");
     private static final Set<Tree.Kind> FORBIDDEN = Set.of(
             Tree.Kind.THROW, Tree.Kind.TRY, Tree.Kind.CATCH, Tree.Kind.SYNCHRONIZED, Tree.Kind.ASSERT,
             Tree.Kind.LAMBDA_EXPRESSION, Tree.Kind.MEMBER_REFERENCE, Tree.Kind.SWITCH_EXPRESSION,

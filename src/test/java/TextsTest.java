@@ -14,7 +14,9 @@ public final class TextsTest {
         deepFaults();
         telling();
         tellingRefused();
+        readAnew();
         acts();
+        longActs();
         force();
         CHECK.end();
     }
@@ -257,6 +259,43 @@ public final class TextsTest {
         CHECK.due("s below", x.tells(0, 0, 0, 0, -1, 0), BAD_TOLD);
         CHECK.due("BAD ahead of NO", x.tells(1, 0, 0, 0, 100, 0), BAD_TOLD);
         CHECK.due("NO", x.tells(1, 0, 0, 0, 99, 0), NO_TOLD);
+    }
+
+    /** What one reading left behind does not touch the next one. */
+    private static void readAnew() {
+        TinHouse x = new TinHouse();
+        String[] faulty = {"((((((((1", "1234567", "1+2*", "1?2", "((((((((((", "1?2:3+", "12 12", "-", "k|"};
+        for (String text : faulty) {
+            Check.put(x, 0, text);
+            Check.put(x, 3, "((((((((w))))))))+12");
+            CHECK.due("faulty '" + text + "'", x.fault(0) == TinHouse.NONE ? 1 : 0, 0);
+            CHECK.due("then sound", x.fault(3), TinHouse.NONE);
+            x.fault(0);
+            CHECK.due("then told", x.tells(3, 0, 0, 0, 0, 30), 42);
+            x.fault(0);
+            Check.put(x, 3, ")");
+            CHECK.due("then faulty", x.fault(3), 1);
+            x.fault(0);
+            Check.put(x, 3, "123456-w");
+            CHECK.due("then six digits", x.fault(3), TinHouse.NONE);
+            x.fault(0);
+            CHECK.due("then their number", x.tells(3, 0, 0, 0, 0, 6), 123450);
+        }
+    }
+
+    /** Every sign of a text that is as long as can be may be a code of its own. */
+    private static void longActs() {
+        TinHouse x = Check.withMerchants(1);
+        x.gate(0);
+        String text = "-------------------------------------------------7";
+        for (int i = 0; i < 16; i++) {
+            CHECK.due("long act", Check.enact(x, i % 2 == 0 ? text : text.substring(1) + "0", 0, i), i);
+        }
+        for (int i = 0; i < 16; i++) {
+            CHECK.due("long act " + i, x.wide(0, 1000, i), i % 2 == 0 ? 1000 : 300);
+        }
+        Check.put(x, 0, text);
+        CHECK.due("long text", x.tells(0, 0, 0, 0, 0, 0), -7);
     }
 
     private static void acts() {

@@ -149,6 +149,13 @@ public final class WaysTest {
         x.stone(10000, 9998, 1);
         CHECK.due("they do not meet", x.span(7, 1), 0);
         fraction(x, "nothing changed", 1000000, 1);
+        TinHouse y = new TinHouse();
+        y.stone(5, 6, 2);
+        y.stone(5, 6, 1);
+        y.span(10, 0);
+        fraction(y, "the second's lower", 10, 1);
+        y.span(10, 1);
+        fraction(y, "the second's upper", 14, 1);
         CHECK.due("x 0", x.span(0, 1), TinHouse.BAD);
         CHECK.due("x above", x.span(1000001, 1), TinHouse.BAD);
         CHECK.due("which", x.span(7, 2), TinHouse.BAD);
