@@ -288,13 +288,14 @@ public final class TextsTest {
         TinHouse x = Check.withMerchants(1);
         x.gate(0);
         String text = "-------------------------------------------------7";
+        Check.put(x, 0, text);
+        Check.put(x, 1, text.substring(1) + "0");
         for (int i = 0; i < 16; i++) {
-            CHECK.due("long act", Check.enact(x, i % 2 == 0 ? text : text.substring(1) + "0", 0, i), i);
+            CHECK.due("long act", x.act(i % 2, 0, i), i);
         }
         for (int i = 0; i < 16; i++) {
             CHECK.due("long act " + i, x.wide(0, 1000, i), i % 2 == 0 ? 1000 : 300);
         }
-        Check.put(x, 0, text);
         CHECK.due("long text", x.tells(0, 0, 0, 0, 0, 0), -7);
     }
 
