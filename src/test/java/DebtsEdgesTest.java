@@ -533,11 +533,21 @@ public final class DebtsEdgesTest {
         share("201", 66);
         share("999999*999999*999999", 66);
         share("-999999*999999*999999", 0);
-        share("g+50", 16);
         share("s*10", 23);
         share("w=33?200:0", 66);
         share("t=1?200:0", 66);
         share("k=0?200:0", 66);
+        for (int told = 199; told <= 202; told++) {
+            String text = Integer.toString(told);
+            CASES.test("SHARE of 10000 shekels by '" + text + "'", c -> {
+                c.merchants(1).act(text, SHARE, 0).tell("purse", 0, 99, 10000).tell("share", 0, 0, 1);
+                c.gives(text.equals("199") ? 19900 : 20000, "leave", 0, 0, 7);
+            });
+        }
+        CASES.test("SHARE: g is 0", c -> {
+            c.merchants(1).act("g+50", SHARE, 0).tell("purse", 0, 99, 10000).tell("share", 0, 0, 1);
+            c.gives(5000, "leave", 0, 0, 7);
+        });
         CASES.test("SHARE without an ACT is 100, from its SEASON on by it", c -> {
             c.merchants(2).act("50", SHARE, 7).tell("purse", 0, 99, 10).tell("share", 0, 1, 3).tell("share", 0, 0, 3);
             c.gives(30, "leave", 0, 1, 6).gives(15, "leave", 0, 0, 7);
@@ -611,6 +621,11 @@ public final class DebtsEdgesTest {
             none.accept(c);
             c.tell("share", 0, 0, 1).tell("share", 0, 2, 29).gives(0, "parted", 0, 43, 0);
             c.gives(28, "parted", 0, 43, 2).gives(15, "parted", 0, 43, 1).gives(1, "parted", 0, 45, 0);
+        });
+        CASES.test("parted: one share in all", c -> {
+            none.accept(c);
+            c.tell("share", 0, 2, 1).gives(667, "parted", 0, 1000, 2).gives(333, "parted", 0, 1000, 1);
+            c.gives(0, "parted", 0, 1000, 0);
         });
         CASES.test("parted: all who had shares have left", c -> {
             none.accept(c);

@@ -11,6 +11,7 @@ public final class ImagesEdgesTest {
         imagesKept();
         kept();
         notKept();
+        nothingIsLeft();
         counts();
         digestOfEach();
         digestOfAll();
@@ -36,6 +37,11 @@ public final class ImagesEdgesTest {
         CASES.test("from: NO: the other one was kept", c -> {
             c.gives(1, "image", 1).refuses(NO, "from", 0).gives(1, "from", 1).gives(1, "image", 0).gives(1, "from", 0);
         });
+        CASES.test("from: a refused one leaves the house", c -> {
+            fill(c);
+            c.refuses(NO, "from", 0).refuses(NO, "from", 1).refuses(BAD, "from", 2).gives(3, "count", 0);
+            c.gives(1, "image", 0).refuses(NO, "from", 1).refuses(BAD, "from", -1).gives(3, "count", 0);
+        });
         CASES.test("from: BAD where none was kept", c -> c.refuses(BAD, "from", -1).refuses(BAD, "from", 2));
         CASES.test("image: a refused one keeps none", c -> {
             c.refuses(BAD, "image", 2).refuses(BAD, "image", -1).refuses(NO, "from", 0).refuses(NO, "from", 1);
@@ -57,8 +63,14 @@ public final class ImagesEdgesTest {
 
     private static void imagesKept() {
         CASES.test("image: over the one that was kept", c -> {
-            c.gives(1, "image", 0).tell("merchant", 1, 1).gives(1, "image", 0).tell("merchant", 1, 1);
-            c.gives(1, "from", 0).gives(1, "count", 0);
+            c.tell("merchant", 1, 1).gives(1, "image", 0).tell("merchant", 1, 1).gives(1, "image", 0);
+            c.tell("merchant", 1, 1).gives(1, "from", 0).gives(2, "count", 0);
+        });
+        CASES.test("image: over a fuller one", c -> {
+            c.gives(1, "image", 1);
+            fill(c);
+            c.gives(1, "image", 0).gives(1, "from", 1).gives(1, "image", 0).tell("merchant", 4, 1);
+            c.gives(1, "from", 0).gives(0, "count", 0).gives(0, "count", 3).gives(0, "erase", 0);
         });
         CASES.test("image: each by itself", c -> {
             c.gives(1, "image", 0).tell("merchant", 1, 1).gives(1, "image", 1).tell("merchant", 1, 1);
@@ -135,6 +147,55 @@ public final class ImagesEdgesTest {
             fill(c);
             c.tell("image", 0).tell("merchant", 0, 0).tell("from", 0).gives(3, "merchant", 2, 1);
             c.gives(2, "debt", 3, 0, 5, 0, 99).gives(5, "owed", 2, 0).gives(2, "pay", 2, 0, 1).gives(4, "owed", 2, 0);
+        });
+    }
+
+    /** What comes behind going on from an IMAGE is as if nothing had been there since it was kept. */
+    private static void nothingIsLeft() {
+        CASES.test("from: nobody has shares in a new PURSE", c -> {
+            c.merchants(10).tell("image", 0).tell("purse", 0, 9, 1);
+            for (int m = 0; m < 10; m++) {
+                c.tell("share", 0, m, 3);
+            }
+            c.gives(1, "from", 0).gives(0, "purse", 1, 8, 1);
+            for (int m = 0; m < 10; m++) {
+                c.refuses(NO, "leave", 0, m, 0);
+            }
+            c.gives(30, "share", 0, 9, 30).gives(0, "parted", 0, 100, 0).gives(67, "parted", 0, 100, 9);
+        });
+        CASES.test("from: a new DEBT lies in no ENVELOPE", c -> {
+            c.merchants(2).tell("image", 0).tell("debt", 0, 1, 9, 0, 0).tell("seal", 0, 5).tell("breaks", 0, 50);
+            c.tell("pay", 0, 0, 3).gives(1, "from", 0).gives(0, "debt", 1, 0, 8, 0, 0).gives(8, "owed", 0, 0);
+            c.refuses(NO, "breaks", 0, 5).gives(1, "seal", 0, 6).gives(6, "owed", 0, 60);
+        });
+        CASES.test("from: a new ACT is of its own text", c -> {
+            c.merchants(1).tell("gate", 0).text(0, "1+1+1+1+1").text(1, "7").tell("image", 0).tell("act", 0, 0, 0);
+            c.gives(950, "wide", 0, 1000, 0).gives(1, "from", 0).gives(950, "wide", 0, 1000, 0);
+            c.gives(0, "act", 1, 0, 0).gives(930, "wide", 0, 1000, 0);
+        });
+        CASES.test("from: LETTERS in a circle carry nothing of what is gone", c -> {
+            c.merchants(2).tell("image", 0).tell("letter", 0, 1, 7, 7, 3).tell("letter", 1, 0, 7, 7, NONE);
+            c.gives(8, "carries", 1).gives(1, "from", 0).tell("letter", 0, 1, 7, 7, NONE);
+            c.tell("letter", 1, 0, 7, 7, NONE).gives(0, "carries", 0).gives(0, "carries", 1).gives(0, "knows", 0, 3, 9999);
+        });
+        CASES.test("from: MENTIONS are compared anew", c -> {
+            c.tell("image", 0).tell("mention", 0, -1, 0).tell("mention", 0, -1, 0).gives(1, "men", NONE);
+            c.gives(1, "from", 0).tell("mention", 1, -1, 0).tell("mention", 2, -1, 0).gives(2, "men", NONE);
+            c.gives(1, "men", 1);
+        });
+        CASES.test("from: MENTIONS are put into sets anew", c -> {
+            c.tell("image", 0).times(3, "mention", -1, -1, 0).gives(1, "men", NONE).gives(1, "from", 0);
+            c.tell("mention", -1, -1, 0).tell("mention", -1, -1, 40).tell("mention", -1, -1, 80).gives(2, "men", NONE);
+            c.gives(0, "men", 1).gives(2, "men", 2).gives(2, "men", NONE).gives(0, "men", 1);
+        });
+        CASES.test("from: orders by what is told anew", c -> {
+            c.tell("image", 0).tell("ahead", 8, 0, 0).gives(181440, "orders", 0).gives(1, "from", 0);
+            c.gives(362880, "orders", 0).gives(1, "ahead", 0, 8, 0).gives(0, "order", 0, 0).gives(0, "place", 0, 0, 0);
+        });
+        CASES.test("from: the plan of new LOADS", c -> {
+            c.merchants(1).tell("price", 0, 100).tell("price", 1, 100).tell("price", 2, 100).tell("image", 0);
+            c.times(6, "load", 0, 1000, 2000).gives(0, "plan", 0, NONE).gives(2, "plan", 0, 5).gives(1, "from", 0);
+            c.tell("load", 0, 10, 0).gives(10, "plan", 0, NONE).gives(0, "plan", 0, 0);
         });
     }
 

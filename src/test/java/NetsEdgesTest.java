@@ -105,6 +105,7 @@ public final class NetsEdgesTest {
         sets("a pair", 1, 5, -5);
         sets("three", 2, 5, -2, -3);
         sets("three of one shekel", 3, 3, -1, -1, -1);
+        sets("three to get one shekel each", 3, -3, 1, 1, 1);
         sets("two pairs", 2, 5, -5, 7, -7);
         sets("four in one set", 3, 5, -4, 7, -8);
         sets("a pair or two, with one of 0", 2, 5, -5, 0, 7, -7);
