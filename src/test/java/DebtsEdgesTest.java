@@ -261,6 +261,21 @@ public final class DebtsEdgesTest {
             c.tell("merchant", 3, 1).tell("merchant", 4, 1).act("k?100:200", RATE, 0);
             c.tell("debt", 0, 1, 1000, 0, 0).gives(1200, "owed", 0, 1);
         });
+        CASES.test("RATE: k is a truth, 1 or 0", c -> {
+            c.tell("merchant", 3, 1).tell("merchant", 3, 1).tell("merchant", 4, 1).act("k*100", RATE, 0);
+            c.tell("debt", 0, 1, 1000, 0, 0).tell("debt", 0, 2, 1000, 0, 0);
+            c.gives(1100, "owed", 0, 1).gives(1000, "owed", 1, 1);
+        });
+        CASES.test("RATE: k of any two", c -> {
+            fourOfTwo(c);
+            c.act("k*100+100", RATE, 0);
+            debtsOfAnyTwo(c, (lender, owes) -> lender / 2 == owes / 2 ? 1200 : 1100);
+        });
+        CASES.test("RATE: t of any two", c -> {
+            fourOfTwo(c);
+            c.act("t*100+100", RATE, 0);
+            debtsOfAnyTwo(c, (lender, owes) -> owes % 2 == 0 ? 1200 : 1100);
+        });
         CASES.test("RATE: t is the TOWN of who owes", c -> {
             c.tell("merchant", 0, 0).tell("merchant", 0, 1).act("t*100", RATE, 0);
             c.tell("debt", 0, 1, 1000, 0, 0).tell("debt", 1, 0, 1000, 0, 0);
@@ -278,6 +293,37 @@ public final class DebtsEdgesTest {
             c.merchants(2).act("w>1000?100:1", RATE, 0).tell("debt", 0, 1, 1000, 0, 0);
             c.gives(1001, "owed", 0, 1).gives(1101, "owed", 0, 2);
         });
+    }
+
+    private interface Due {
+        long of(int one, int other);
+    }
+
+    /** Merchants 0 and 1 of one HOUSE, 2 and 3 of another one; 0 and 2 of TOWN 1, 1 and 3 of TOWN 0. */
+    private static void fourOfTwo(Case c) {
+        c.tell("merchant", 4, 1).tell("merchant", 4, 0).tell("merchant", 2, 1).tell("merchant", 2, 0);
+    }
+
+    /** Each of four has lent 1000 to each other one: what is owed in the SEASON behind the due one. */
+    private static void debtsOfAnyTwo(Case c, Due due) {
+        int debts = 0;
+        for (int lender = 3; lender >= 0; lender--) {
+            for (int owes = 0; owes < 4; owes++) {
+                if (lender != owes) {
+                    c.gives(debts, "debt", lender, owes, 1000, 0, 0).gives(due.of(lender, owes), "owed", debts, 1);
+                    debts++;
+                }
+            }
+        }
+        debts = 0;
+        for (int lender = 3; lender >= 0; lender--) {
+            for (int owes = 0; owes < 4; owes++) {
+                if (lender != owes) {
+                    c.gives(due.of(lender, owes), "owed", debts, 1);
+                    debts++;
+                }
+            }
+        }
     }
 
     /** By this RATE a sum grows tenfold in four SEASONS, to the shekel. */
@@ -565,10 +611,41 @@ public final class DebtsEdgesTest {
             c.tell("merchant", 2, 1).tell("merchant", 2, 0).act("t?200:50", SHARE, 0).tell("purse", 0, 99, 10);
             c.tell("share", 0, 0, 1).tell("share", 0, 1, 1).gives(20, "leave", 0, 0, 0).gives(5, "leave", 0, 1, 0);
         });
+        share("k*100", 0);
+        CASES.test("SHARE: k is a truth, 1 or 0", c -> {
+            c.tell("merchant", 2, 0).tell("merchant", 2, 1).tell("merchant", 1, 0).act("k*100", SHARE, 0);
+            c.tell("purse", 0, 99, 10).tell("share", 0, 0, 1).tell("share", 0, 1, 1).tell("share", 0, 2, 1);
+            c.gives(10, "leave", 0, 0, 0).gives(10, "leave", 0, 1, 0).gives(0, "leave", 0, 2, 0);
+        });
+        CASES.test("SHARE: k of any two", c -> {
+            fourOfTwo(c);
+            c.act("k*100+100", SHARE, 0);
+            leavesOfAnyTwo(c, (manager, merchant) -> manager / 2 == merchant / 2 ? 20 : 10);
+        });
+        CASES.test("SHARE: t of any two", c -> {
+            fourOfTwo(c);
+            c.act("t*100+100", SHARE, 0);
+            leavesOfAnyTwo(c, (manager, merchant) -> merchant % 2 == 0 ? 20 : 10);
+        });
         CASES.test("SHARE: one share of one shekel", c -> {
             c.merchants(1).act("99", SHARE, 0).tell("purse", 0, 99, 1).tell("share", 0, 0, 1);
             c.gives(0, "leave", 0, 0, 0).refuses(NO, "leave", 0, 0, 0);
         });
+    }
+
+    /** Merchants 3, 2 and 1 manage a PURSE each, in which each of four has a share of 10 shekels. */
+    private static void leavesOfAnyTwo(Case c, Due due) {
+        for (int purse = 0; purse < 3; purse++) {
+            c.gives(purse, "purse", 3 - purse, 99 - purse, 10);
+            for (int merchant = 0; merchant < 4; merchant++) {
+                c.gives(1, "share", purse, merchant, 1);
+            }
+        }
+        for (int purse = 0; purse < 3; purse++) {
+            for (int merchant = 0; merchant < 4; merchant++) {
+                c.gives(due.of(3 - purse, merchant), "leave", purse, merchant, 50);
+            }
+        }
     }
 
     // ---- promise 17
@@ -582,6 +659,16 @@ public final class DebtsEdgesTest {
         CASES.bounds(BAD, two, "parted", 0, 1000, 2).number(1, 0, 0, 100000000, 50000000);
         CASES.bounds(BAD, two, "parted", 0, 1000, 0).number(1, 0, 0, 100000000, 33333333 + 16666666 + 1);
         CASES.test("parted: to one without shares", c -> two.andThen(d -> d.gives(0, "parted", 0, 1000, 1)).accept(c));
+        CASES.test("parted: each PURSE by its own MANAGER and shares", c -> {
+            c.merchants(4).tell("purse", 3, 1, 5).tell("purse", 1, 2, 7).tell("purse", 2, 0, 9);
+            c.tell("share", 0, 0, 30).tell("share", 1, 0, 10).tell("share", 1, 1, 10).tell("share", 2, 3, 1);
+            int[][] gets = {{20, 0, 0, 10}, {10, 20, 0, 0}, {0, 0, 10, 20}};
+            for (int purse = 0; purse < 3; purse++) {
+                for (int m = 0; m < 4; m++) {
+                    c.gives(gets[purse][m], "parted", purse, 30, m);
+                }
+            }
+        });
         CASES.test("parted: it changes nothing, at its end or ahead of it", c -> {
             two.accept(c);
             c.gives(500, "parted", 0, 1000, 2).gives(500, "parted", 0, 1000, 2).gives(15, "leave", 0, 2, 0);

@@ -105,6 +105,18 @@ public final class ImagesEdgesTest {
             told.accept(c);
             c.gives(1, "from", 0);
             asWas.accept(c);
+            // What the house does behind going on from it leaves the image.
+            c.gives(1, "from", 0);
+            told.accept(c);
+            c.gives(1, "from", 0);
+            asWas.accept(c);
+        });
+        CASES.test("an IMAGE keeps " + what + " beside another one", c -> {
+            fill(c);
+            c.tell("image", 1);
+            told.accept(c);
+            c.gives(1, "image", 0).gives(1, "from", 1);
+            asWas.accept(c);
         });
     }
 
@@ -187,6 +199,11 @@ public final class ImagesEdgesTest {
             c.tell("image", 0).times(3, "mention", -1, -1, 0).gives(1, "men", NONE).gives(1, "from", 0);
             c.tell("mention", -1, -1, 0).tell("mention", -1, -1, 40).tell("mention", -1, -1, 80).gives(2, "men", NONE);
             c.gives(0, "men", 1).gives(2, "men", 2).gives(2, "men", NONE).gives(0, "men", 1);
+        });
+        CASES.test("from: MENTIONS are put into sets as if none had been", c -> {
+            c.tell("image", 0).times(3, "mention", -1, -1, 0).gives(1, "men", NONE).gives(1, "from", 0);
+            c.tell("mention", 0, -1, 0).tell("mention", 0, -1, 0).tell("mention", 1, -1, 0).gives(2, "men", NONE);
+            c.gives(0, "men", 1).gives(2, "men", 2);
         });
         CASES.test("from: orders by what is told anew", c -> {
             c.tell("image", 0).tell("ahead", 8, 0, 0).gives(181440, "orders", 0).gives(1, "from", 0);

@@ -154,6 +154,25 @@ public final class NamesEdgesTest {
         CASES.test("place: of nine of which nothing is told", c -> {
             c.gives(0, "place", 8, 99, 0).gives(8, "place", 8, 99, 1).gives(0, "place", 0, 0, 0).gives(8, "place", 0, 0, 1);
         });
+        for (int name = 0; name < 9; name++) {
+            int between = name;
+            CASES.test("place: by what follows from it by way of NAME " + name, c -> {
+                int first = (between + 4) % 9;
+                int last = (between + 7) % 9;
+                c.tell("ahead", between, last, 0).tell("ahead", first, between, 0);
+                c.gives(2, "place", last, 0, 0).gives(8, "place", last, 0, 1).gives(0, "place", first, 0, 0);
+                c.gives(6, "place", first, 0, 1).gives(1, "place", between, 0, 0).gives(7, "place", between, 0, 1);
+            });
+        }
+        CASES.test("place: in a row of nine", c -> {
+            int[] row = {3, 7, 0, 8, 5, 1, 6, 2, 4};
+            for (int i : new int[] {4, 0, 7, 2, 5, 1, 6, 3}) {
+                c.tell("ahead", row[i], row[i + 1], 0);
+            }
+            for (int i = 0; i < 9; i++) {
+                c.gives(i, "place", row[i], 0, 0).gives(i, "place", row[i], 0, 1).gives(row[i], "order", 0, i);
+            }
+        });
         CASES.test("place: by what follows from it", c -> {
             c.tell("names", 5).tell("ahead", 4, 2, 0).tell("ahead", 2, 0, 0).tell("ahead", 3, 0, 0);
             c.gives(3, "place", 0, 0, 0).gives(4, "place", 0, 0, 1).gives(1, "place", 2, 0, 0).gives(3, "place", 2, 0, 1);
@@ -277,6 +296,13 @@ public final class NamesEdgesTest {
         });
         CASES.test("knows: nobody else", c -> {
             c.merchants(3).tell("letter", 0, 1, 50, 60, 3).gives(0, "knows", 2, 3, 9999);
+        });
+        CASES.test("knows: nobody else, whoever writes to whom", c -> {
+            c.merchants(5).tell("letter", 1, 3, 50, 60, 3).tell("letter", 3, 1, 50, 60, 4);
+            for (int m = 0; m < 5; m++) {
+                int knows = m == 1 || m == 3 ? 1 : 0;
+                c.gives(knows, "knows", m, 3, 9999).gives(knows, "knows", m, 4, 9999);
+            }
         });
         CASES.test("knows: no other THING", c -> {
             c.merchants(2).tell("letter", 0, 1, 50, 60, 3).gives(0, "knows", 0, 2, 9999).gives(0, "knows", 1, 4, 9999);

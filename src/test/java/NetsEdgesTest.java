@@ -9,9 +9,11 @@ public final class NetsEdgesTest {
     public static void main(String[] args) {
         balance();
         fewest();
+        fewestAgain();
         fewestSets();
         ring();
         ringOfPairs();
+        ringOfPairsPaid();
         ringOfSeasons();
         fewestInRing();
         firstRow();
@@ -83,6 +85,21 @@ public final class NetsEdgesTest {
         CASES.test("fewest: as it grows", c -> {
             c.merchants(3).tell("debt", 0, 1, 100, 0, 0).tell("debt", 1, 2, 100, 0, 99);
             c.gives(1, "fewest", 0).gives(2, "fewest", 1);
+        });
+    }
+
+    private static void fewestAgain() {
+        CASES.test("fewest: of one SEASON, of another one, and again", c -> {
+            c.merchants(6).tell("debt", 0, 1, 5, 0, 99).tell("debt", 2, 3, 7, 0, 99).tell("debt", 4, 5, 6, 0, 99);
+            c.tell("debt", 1, 2, 3, 10, 99).tell("debt", 3, 4, 1, 20, 99);
+            for (int times = 0; times < 3; times++) {
+                c.gives(3, "fewest", 0).gives(4, "fewest", 10).gives(5, "fewest", 20);
+            }
+        });
+        CASES.test("fewest: asked again, as told on", c -> {
+            c.merchants(4).tell("debt", 0, 1, 5, 0, 99).gives(1, "fewest", 0).tell("debt", 2, 3, 6, 0, 99);
+            c.gives(2, "fewest", 0).tell("debt", 1, 2, 1, 0, 99).gives(3, "fewest", 0).tell("pay", 2, 0, 1);
+            c.gives(2, "fewest", 0).tell("pay", 0, 0, 5).gives(1, "fewest", 0).gives(1, "fewest", 0);
         });
     }
 
@@ -176,6 +193,27 @@ public final class NetsEdgesTest {
         });
     }
 
+    private static void ringOfPairsPaid() {
+        CASES.test("ring: one DEBT of the pair is left, the first", c -> {
+            debts(2, row(0, 1, 5), row(0, 1, 7), row(1, 0, 5)).accept(c);
+            c.tell("pay", 1, 0, 7);
+            holds(c, 0, 0, 1);
+        });
+        CASES.test("ring: one DEBT of the pair is left, the last", c -> {
+            debts(2, row(1, 0, 5), row(0, 1, 5), row(0, 1, 7)).accept(c);
+            c.tell("pay", 1, 0, 5);
+            holds(c, 0, 0, 1);
+        });
+        CASES.test("ring: of one SEASON, of another one, and again", c -> {
+            c.merchants(5).tell("debt", 0, 1, 5, 0, 99).tell("debt", 1, 2, 5, 0, 99).tell("debt", 2, 0, 5, 0, 99);
+            c.tell("debt", 3, 4, 5, 10, 99).tell("debt", 4, 3, 5, 10, 99);
+            for (int times = 0; times < 2; times++) {
+                holds(c, 9, 0, 2, 1);
+                holds(c, 10, 3, 4);
+            }
+        });
+    }
+
     private static void ringOfSeasons() {
         CASES.test("ring: ahead of the SEASON in which the last one was lent", c -> {
             c.merchants(2).tell("debt", 0, 1, 5, 0, 99).tell("debt", 1, 0, 5, 10, 99);
@@ -204,6 +242,11 @@ public final class NetsEdgesTest {
         ring("the fewest from one", 5, row(0, 2, 3, 4), 0, 1, 1, 2, 2, 3, 3, 4, 4, 0, 0, 2);
         ring("three are fewer than four", 7, row(4, 5, 6), 0, 1, 1, 2, 2, 3, 3, 0, 4, 5, 5, 6, 6, 4);
         ring("a short way back", 5, row(0, 1), 0, 1, 1, 2, 2, 0, 1, 0);
+        ring("a short way, then a long one", 4, row(0, 1), 0, 1, 1, 0, 0, 2, 2, 3, 3, 0);
+        ring("past one who owes nobody", 3, row(0, 2), 0, 1, 0, 2, 2, 0);
+        ring("past one who owes nobody, further on", 5, row(0, 1, 4), 0, 1, 1, 2, 1, 3, 1, 4, 4, 0);
+        ring("past one to whom nothing is owed", 5, row(0, 2, 4), 3, 0, 0, 2, 2, 4, 4, 0);
+        ring("past one to whom nothing is owed, ahead of all", 4, row(0, 2, 3), 1, 3, 0, 2, 2, 3, 3, 0);
         ring("a short way within", 5, row(1, 2), 0, 1, 1, 2, 2, 3, 3, 0, 2, 1);
     }
 

@@ -19,6 +19,7 @@ public final class PlansEdgesTest {
         worstWorld();
         likePlans();
         planOfTheSeason();
+        planOfOwners();
         fullPlan();
         part();
         CASES.end();
@@ -203,6 +204,26 @@ public final class PlansEdgesTest {
             prices(200, 300, 200).accept(c);
             c.gives(380, "plan", 9, NONE).gives(WIDE, "plan", 9, 0).gives(380, "plan", 10, NONE);
             c.gives(NARROW, "plan", 10, 0).gives(WIDE, "plan", 10, 1).gives(NARROW, "plan", 99, 0);
+        });
+    }
+
+    private static void planOfOwners() {
+        CASES.test("plan: each LOAD by TOLL of its own MERCHANT", c -> {
+            c.tell("merchant", 0, 0).tell("merchant", 0, 1).tell("merchant", 1, 0).tell("merchant", 1, 1);
+            c.tell("gate", 1).act("k?0:100", TOLL, 0).tell("narrow", 2);
+            prices(100, 100, 100).accept(c);
+            for (int owner : new int[] {2, 3, 3, 0, 1, 2}) {
+                c.tell("load", owner, 100, 60);
+            }
+            holds(c, 120, STAY, WIDE, WIDE, STAY, WIDE, STAY);
+        });
+        CASES.test("plan: of one SEASON, of another one, and again", c -> {
+            c.merchants(1).tell("gate", 0).act("100", TOLL, 10).act("0", TOLL, 20).tell("load", 0, 100, 0);
+            prices(100, 100, 100).accept(c);
+            for (int times = 0; times < 2; times++) {
+                c.gives(95, "plan", 9, NONE).gives(WIDE, "plan", 9, 0).gives(90, "plan", 10, NONE);
+                c.gives(NARROW, "plan", 10, 0).gives(100, "plan", 20, NONE).gives(WIDE, "plan", 20, 0);
+            }
         });
     }
 

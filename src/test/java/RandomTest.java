@@ -97,9 +97,19 @@ public final class RandomTest {
         return text.toString();
     }
 
+    /** What an act tells mostly lies within its bounds, so that all it is told by is seen in it. */
+    private String law() {
+        StringBuilder text = new StringBuilder().append(draw(30));
+        for (int i = 1 + draw(3); i > 0; i--) {
+            text.append(draw(4) == 0 ? '-' : '+').append("gkts".charAt(draw(4))).append('*').append(1 + draw(25));
+        }
+        return draw(3) == 0 ? text.append("+w/").append(1 + draw(300)).toString() : text.toString();
+    }
+
     private String text() {
-        if (draw(5) > 0) {
-            return value(3);
+        int kind = draw(5);
+        if (kind > 0) {
+            return kind < 3 ? law() : value(3);
         }
         StringBuilder text = new StringBuilder();
         for (int i = draw(14); i >= 0; i--) {

@@ -109,6 +109,19 @@ public final class WaysEdgesTest {
             c.merchants(2).tell("gate", 1).act("k?10:20", TOLL, 0);
             c.gives(800, "wide", 0, 1000, 0).gives(900, "wide", 1, 1000, 0);
         });
+        CASES.test("TOLL: k is a truth, 1 or 0", c -> {
+            c.merchants(2).tell("gate", 1).act("k*10", TOLL, 0);
+            c.gives(1000, "wide", 0, 1000, 0).gives(900, "wide", 1, 1000, 0);
+        });
+        CASES.test("TOLL: k of each GATE's land", c -> {
+            c.merchants(3).tell("gate", 0).tell("gate", 1).tell("gate", 1).tell("gate", 0).tell("gate", 1);
+            c.act("k?g*10+10:0", TOLL, 0).gives(1000 * 9 / 10 * 6 / 10, "wide", 0, 1000, 0);
+            c.gives(1000 * 8 / 10 * 7 / 10 * 5 / 10, "wide", 1, 1000, 0).gives(540, "wide", 2, 1000, 0);
+        });
+        CASES.test("TOLL: t of each GATE's land", c -> {
+            c.merchants(2).tell("gate", 0).tell("gate", 1).tell("gate", 1).tell("gate", 0).tell("gate", 1);
+            c.act("t?g*10+10:0", TOLL, 0).gives(280, "wide", 0, 1000, 0).gives(280, "wide", 1, 1000, 0);
+        });
         CASES.test("TOLL: t is the land, not his TOWN", c -> {
             c.merchants(2).tell("gate", 1).act("t?10:20", TOLL, 0);
             c.gives(900, "wide", 0, 1000, 0).gives(900, "wide", 1, 1000, 0);
