@@ -9,15 +9,16 @@ public final class RandomTest {
         "!", "-", "?", ":", "|", "&", "<", ">", "=", "+", "*", "/", " ", "x", "~", "((((((((("};
     private static final Check CHECK = new Check("RandomTest");
 
-    private final TinHouse x = new TinHouse();
-    private final Plain p = new Plain();
+    private final Pair pair;
+    private final Plain p;
     private final int run;
-    private int asked = 0;
-    private long drawn;
+    private final Drawn drawn;
 
     private RandomTest(int run) {
         this.run = run;
-        this.drawn = run * 7919L;
+        this.pair = new Pair(CHECK, "run " + run);
+        this.p = pair.plain;
+        this.drawn = new Drawn(run * 7919L);
     }
 
     public static void main(String[] args) {
@@ -27,18 +28,12 @@ public final class RandomTest {
         CHECK.end();
     }
 
-    /** A call of both houses; the last one of a run is left for the digest. */
     private void ask(String call, long... numbers) {
-        if (asked < Case.CALLS - 1) {
-            asked++;
-            String written = "run " + run + " call " + asked + " " + Calls.written(call, numbers);
-            CHECK.due(written, Calls.ask(x, call, numbers), Calls.ask(p, call, numbers));
-        }
+        pair.ask(call, numbers);
     }
 
     private int draw(int below) {
-        drawn = drawn * 6364136223846793005L + 1442695040888963407L;
-        return (int) ((drawn >>> 33) % below);
+        return drawn.below(below);
     }
 
     /** Mostly from least to most, now and then one too far or far away. */
@@ -127,10 +122,10 @@ public final class RandomTest {
         if (run % 2 == 0) {
             ask("names", 2 + draw(5));
         }
-        for (int round = 0; round < Case.CALLS && asked < Case.CALLS - 1; round++) {
+        for (int round = 0; round < Case.CALLS && pair.isLeft(); round++) {
             play(draw(2) == 0 ? run % 9 : draw(7));
         }
-        CHECK.due("run " + run + " digest", x.digest(), p.digest());
+        pair.end();
     }
 
     /** Half of a run's calls are of one kind, so that what is full is met, too. */
@@ -150,15 +145,12 @@ public final class RandomTest {
         int text = from(0, 3);
         switch (draw(7)) {
             case 0 -> {
-                ask("erase", text);
-                for (char sign : text().toCharArray()) {
-                    ask("write", text, sign);
-                }
+                pair.text(text, text());
                 ask("fault", text);
             }
             case 1 -> ask("fault", text);
             case 2, 3 -> {
-                long w = draw(4) == 0 ? drawn : draw(1000) - 100;
+                long w = draw(4) == 0 ? drawn.wide() : draw(1000) - 100;
                 ask("tells", text, from(0, 5), from(0, 1), from(0, 1), from(0, 99), w);
             }
             case 4 -> ask("act", text, from(0, 2), season());
