@@ -1,12 +1,24 @@
+import java.lang.reflect.Method;
+import java.lang.reflect.Modifier;
+import java.util.Arrays;
+import java.util.Comparator;
+import java.util.List;
 import java.util.function.BiConsumer;
 
 /**
  * Houses drawn so that what must be searched for lies deep: long rings, balances of hidden sets, orders
  * of many names, letters of few days, men who are hard to tell apart, plans that are nearly alike, texts
- * of fifty characters with one of them changed. Asked of TinHouse and of Plain.
+ * of fifty characters with one of them changed; and any call with any numbers. Asked of TinHouse and of Plain.
  */
 public final class SearchTest {
     private static final int NONE = TinHouse.NONE;
+    /** What numbers are told by: the bounds of all of them, and what lies far beyond. */
+    private static final long[] BOUNDS = {
+        Integer.MIN_VALUE, Integer.MIN_VALUE + 1, -10, -2, -1, 0, 0, 0, 1, 1, 1, 2, 2, 3, 4, 5, 6, 9, 10, 12, 30, 31,
+        40, 50, 60, 99, 100, 127, 128, 1000, 9999, 10000, 1000000, 1000001, 100000000, Integer.MAX_VALUE};
+    private static final List<Method> CALLS = Arrays.stream(TinHouse.class.getDeclaredMethods())
+            .filter(method -> Modifier.isPublic(method.getModifiers()))
+            .sorted(Comparator.comparing(Method::getName)).toList();
     private static final Check CHECK = new Check("SearchTest");
 
     public static void main(String[] args) {
@@ -21,6 +33,7 @@ public final class SearchTest {
         runs(40, "purse", SearchTest::purses);
         runs(40, "ways", SearchTest::ways);
         runs(40, "span", SearchTest::spans);
+        runs(60, "any", SearchTest::any);
         CHECK.end();
     }
 
@@ -326,6 +339,25 @@ public final class SearchTest {
                 pair.ask("part", 0);
                 pair.ask("part", 1);
             }
+        }
+    }
+
+    // ---- any call with any numbers
+
+    private static void any(Pair pair, Drawn drawn) {
+        if (drawn.oneOf(2)) {
+            merchants(pair, drawn, 3);
+            pair.text(1, "w/2+g");
+            pair.ask("purse", 0, 9, 9);
+            pair.ask("debt", 0, 1, 9, 0, 0);
+        }
+        while (pair.isLeft()) {
+            Method call = CALLS.get(drawn.below(CALLS.size()));
+            long[] numbers = new long[call.getParameterCount()];
+            for (int i = 0; i < numbers.length; i++) {
+                numbers[i] = BOUNDS[drawn.below(BOUNDS.length)];
+            }
+            pair.ask(call.getName(), numbers);
         }
     }
 }
