@@ -2,12 +2,12 @@ import java.lang.management.ManagementFactory;
 
 /**
  * All calls of a run live in one room: some 600,000 objects and arrays, 7.3 million fields and elements.
- * So each call is asked of the fullest house, and what it makes must leave room for 512 such calls. An
- * object takes 16 bytes at least and a number in it 4 or 8: what takes fewer bytes than 600,000 objects
- * of 16 holds neither more objects nor more numbers than the room.
+ * So each call is asked of the fullest house, and what it makes must leave room for 512 such calls. A
+ * field or an element takes 4 bytes mostly: what takes fewer bytes than 7.3 million of them has no more
+ * of them than the room, nor more objects, unless these are all of less than 48 bytes.
  */
 public final class RoomTest {
-    private static final long ROOM_BYTES = 600000 * 16;
+    private static final long ROOM_BYTES = 7300000 * 4;
     private static final int TIMES = 16;
     private static final String DEAR = "((((((((w+1)*2-s)*3+k)*3+t)*3+g)*3+w)&1)?30:w)";
     private static final Check CHECK = new Check("RoomTest");
